@@ -403,6 +403,7 @@ public final class MorselQuery {
                 return b == 0 ? 0 : a / b;
             case REMAINDER:
                 return b == 0 ? 0 : a % b;
+            case NEGATION:
             default:
                 return -a;
         }
@@ -423,6 +424,7 @@ public final class MorselQuery {
             case NOT_EQUAL:
                 answer = a != b;
                 break;
+            case NOT:
             default:
                 answer = a == 0;
                 break;

@@ -156,6 +156,22 @@ public final class MorselQueryPromises {
         due("first value", x.group(0, 4), 0);
         due("first value", x.group(0, 5), 0);
         due("first value", x.group(0, 6), 0);
+        // Each of the three by itself, while the other two are others.
+        query(x, 2, 0);
+        due("first filter and value with another key", x.run(0, 0, 3), 2);
+        due("key", x.group(1, 1), 5);
+        due("first value", x.group(1, 3), 1);
+        due("first value", x.group(1, 4), 0);
+        x = withRow(5, 6, 7);
+        query(x, 1, 1);
+        due("first filter and key with another value", x.run(0, 0, 3), 1);
+        due("first key", x.group(0, 1), 0);
+        due("value", x.group(0, 4), 6);
+        x = withRow(5, 6, 7);
+        query(x, 0, 20, 0, CONST, 5);
+        due("first key and value with another filter", x.run(0, 0, 3), 1);
+        due("first key", x.group(0, 1), 0);
+        due("first value", x.group(0, 4), 0);
     }
 
     // ---- promise 2
@@ -566,6 +582,8 @@ public final class MorselQueryPromises {
                 x.insert(0, 100 - i, 1, 1);
                 due("run", x.run(0, 0, 3), i + 1);
             }
+            due("what behind the last one, of the last group", x.group(11, 7), 0);
+            due("a group behind the last one", x.group(12, 0), 0);
             x.insert(0, 95, 1, 1);
             due("a thirteenth row of an old group", x.run(0, 0, 3), 12);
             x.insert(0, 1000, 1, 1);
