@@ -1,27 +1,5 @@
 // Each promise of the document by itself: ordinary inputs, the edges that the document names, and wrong inputs.
-public final class MorselQueryPromises {
-    private static final int NULL = Integer.MIN_VALUE;
-    private static final int REFUSED = -1, FULL = -2;
-    // The tests' own sign for a CONST in a list of tokens; the constant's int follows it.
-    private static final int CONST = 99;
-    private static final int[] ODD_INTS = {Integer.MIN_VALUE, -1000, -2, -1, 0, 1, 2, 3, 5, 6, 15, 16, 17, 1000, Integer.MAX_VALUE};
-
-    private static int wrong = 0;
-    private static int checks = 0;
-    private static int promise = 0;
-
-    private static void due(String what, long got, long want) {
-        checks++;
-        if (got != want) {
-            wrong++;
-            System.out.println("promise " + promise + ": " + what + " answered " + got + ", due is " + want);
-        }
-    }
-
-    private static void due(String what, boolean got, boolean want) {
-        due(what, got ? 1 : 0, want ? 1 : 0);
-    }
-
+public final class MorselQueryPromises extends Checks {
     public static void main(String[] args) {
         newObject();
         insert();
@@ -43,84 +21,13 @@ public final class MorselQueryPromises {
         groupAggregates();
         passed();
         orderAndLimits();
-        System.out.println(checks + " checks, " + wrong + " wrong");
-        if (wrong != 0) {
-            System.exit(1);
-        }
-    }
-
-    // ---- helpers
-
-    private static boolean write(MorselQuery x, int... list) {
-        boolean all = true;
-        for (int i = 0; i < list.length; i++) {
-            if (list[i] == CONST) {
-                i++;
-                all &= x.constant(list[i]);
-            } else {
-                all &= x.put(list[i], -1, -1);
-            }
-        }
-        return all;
-    }
-
-    private static boolean query(MorselQuery x, int what, int... list) {
-        boolean written = write(x, list);
-        return x.use(what) & written;
-    }
-
-    private static MorselQuery withRow(int a, int b, int c) {
-        MorselQuery x = new MorselQuery();
-        x.insert(0, a, b, c);
-        return x;
-    }
-
-    private static void value(String what, long want, int... list) {
-        MorselQuery x = withRow(7, -3, NULL);
-        due(what + " is taken", query(x, 1, list), true);
-        due(what + ": run", x.run(0, 0, 3), 1);
-        due(what + ": not NULL", x.group(0, 3), 1);
-        due(what, x.group(0, 4), want);
-    }
-
-    private static void nullValue(String what, int... list) {
-        MorselQuery x = withRow(7, -3, NULL);
-        due(what + " is taken", query(x, 1, list), true);
-        due(what + ": run", x.run(0, 0, 3), 1);
-        due(what + ": pairs", x.group(0, 2), 1);
-        due(what + ": NULL", x.group(0, 3), 0);
-    }
-
-    // 1 true, 0 false, 2 unknown: told apart by the filter and by the filter's "not".
-    private static int truth(int... list) {
-        MorselQuery x = withRow(7, -3, NULL);
-        boolean taken = query(x, 0, list);
-        int plain = x.run(0, 0, 3);
-        int[] negated = new int[list.length + 1];
-        negated[0] = 32;
-        System.arraycopy(list, 0, negated, 1, list.length);
-        taken &= query(x, 0, negated);
-        int not = x.run(0, 0, 3);
-        if (!taken || plain + not > 1) {
-            return -1;
-        }
-        return plain == 1 ? 1 : not == 1 ? 0 : 2;
-    }
-
-    private static int[] join(int head, int[]... parts) {
-        int[] all = {head};
-        for (int[] part : parts) {
-            int[] longer = java.util.Arrays.copyOf(all, all.length + part.length);
-            System.arraycopy(part, 0, longer, all.length, part.length);
-            all = longer;
-        }
-        return all;
+        end();
     }
 
     // ---- promise 1
 
     private static void newObject() {
-        promise = 1;
+        about = "promise 1";
         MorselQuery x = new MorselQuery();
         due("rows(0)", x.rows(0), 0);
         due("rows(1)", x.rows(1), 0);
@@ -177,7 +84,7 @@ public final class MorselQueryPromises {
     // ---- promise 2
 
     private static void insert() {
-        promise = 2;
+        about = "promise 2";
         for (int table = 0; table < 2; table++) {
             MorselQuery x = new MorselQuery();
             for (int i = 0; i < 16; i++) {
@@ -210,7 +117,7 @@ public final class MorselQueryPromises {
     // ---- promise 3
 
     private static void remove() {
-        promise = 3;
+        about = "promise 3";
         for (int table = 0; table < 2; table++) {
             for (int place = 0; place < 16; place++) {
                 MorselQuery x = new MorselQuery();
@@ -259,7 +166,7 @@ public final class MorselQueryPromises {
     // ---- promise 4
 
     private static void set() {
-        promise = 4;
+        about = "promise 4";
         MorselQuery x = new MorselQuery();
         x.insert(0, 1, 2, 3);
         x.insert(0, 4, 5, 6);
@@ -298,7 +205,7 @@ public final class MorselQueryPromises {
     // ---- promise 5
 
     private static void cell() {
-        promise = 5;
+        about = "promise 5";
         MorselQuery x = new MorselQuery();
         x.insert(0, 11, NULL, 13);
         x.insert(0, 21, 22, 23);
@@ -330,7 +237,7 @@ public final class MorselQueryPromises {
     // ---- promise 6
 
     private static void rows() {
-        promise = 6;
+        about = "promise 6";
         MorselQuery x = new MorselQuery();
         for (int i = 1; i <= 16; i++) {
             x.insert(1, 0, 0, 0);
@@ -353,7 +260,7 @@ public final class MorselQueryPromises {
     }
 
     private static void put() {
-        promise = 7;
+        about = "promise 7";
         for (int n = -200; n <= 300; n++) {
             boolean want = n == -1 || isToken(n);
             due("put(" + n + ", -1, -1)", new MorselQuery().put(n, -1, -1), want);
@@ -416,7 +323,7 @@ public final class MorselQueryPromises {
     // ---- promise 8
 
     private static void constant() {
-        promise = 8;
+        about = "promise 8";
         for (int value : new int[] {0, 1, -1, 40, 99, Integer.MAX_VALUE, -Integer.MAX_VALUE}) {
             value("CONST " + value, value, CONST, value);
         }
@@ -448,7 +355,7 @@ public final class MorselQueryPromises {
     // ---- promise 9
 
     private static void use() {
-        promise = 9;
+        about = "promise 9";
         // A refused use leaves the query and takes the pending tokens all the same.
         int[][] refused = {{}, {10}, {10, 0}, {0, 1}, {10, 0, 1, 2}, {0, 10, 1}, {0, 1, 10}, {10, 10, 0, 1}, {15}, {0, 15},
             {34, 20, 0, 1, 2}, {32}, {30, 20, 0, 1}, {20, 0}, {20, 0, 1, 2}, {20, 0, 1, 33, 2}, {33}, {33, 0, 1}};
@@ -517,7 +424,7 @@ public final class MorselQueryPromises {
     }
 
     private static void useKinds() {
-        promise = 9;
+        about = "promise 9";
         int[] number = {0};
         int[] constantNumber = {CONST, 3};
         int[] deepNumber = {34, 33, 0, 1, 2};
@@ -569,7 +476,7 @@ public final class MorselQueryPromises {
     // ---- promise 10
 
     private static void run() {
-        promise = 10;
+        about = "promise 10";
         for (int mode : ODD_INTS) {
             runRefused(mode);
         }
@@ -659,7 +566,7 @@ public final class MorselQueryPromises {
     }
 
     private static void runJoins() {
-        promise = 10;
+        about = "promise 10";
         MorselQuery x = new MorselQuery();
         x.insert(0, 1, 2, NULL);
         x.insert(0, 2, NULL, 4);
@@ -733,7 +640,7 @@ public final class MorselQueryPromises {
     }
 
     private static void arithmetic() {
-        promise = 10;
+        about = "promise 10";
         // The row is 7, -3, NULL.
         value("column 0", 7, 0);
         value("column 1", -3, 1);
@@ -786,7 +693,7 @@ public final class MorselQueryPromises {
     }
 
     private static void nullsAndChoices() {
-        promise = 10;
+        about = "promise 10";
         value("first, else second", 7, 16, 0, 1);
         value("NULL, else second", -3, 16, 2, 1);
         value("first, else NULL", 7, 16, 0, 2);
@@ -817,7 +724,7 @@ public final class MorselQueryPromises {
     }
 
     private static void truths() {
-        promise = 10;
+        about = "promise 10";
         long[] numbers = {-2147483647, -1, 0, 1, 7, 2147483647};
         for (long a : numbers) {
             for (long b : numbers) {
@@ -859,7 +766,7 @@ public final class MorselQueryPromises {
     // ---- promise 11
 
     private static void group() {
-        promise = 11;
+        about = "promise 11";
         MorselQuery x = new MorselQuery();
         x.insert(0, 3, 10, 0);
         x.insert(0, NULL, 20, 0);
@@ -905,16 +812,8 @@ public final class MorselQueryPromises {
         groupsAre(x, new long[][] {{0, 0, 0, 0, 0, 0, 0}});
     }
 
-    private static void groupsAre(MorselQuery x, long[][] want) {
-        for (int number = 0; number < want.length; number++) {
-            for (int what = 0; what < 7; what++) {
-                due("group(" + number + ", " + what + ")", x.group(number, what), want[number][what]);
-            }
-        }
-    }
-
     private static void groupOrder() {
-        promise = 11;
+        about = "promise 11";
         int[] keys = {4, -2, NULL, 0, 2147483647, -2147483647, 1, -1, 4, NULL, 0};
         int[] sorted = {-2147483647, -2, -1, 0, 1, 4, 2147483647};
         int[] pairs = {1, 1, 1, 2, 1, 2, 1};
@@ -966,7 +865,7 @@ public final class MorselQueryPromises {
     }
 
     private static void groupAggregates() {
-        promise = 11;
+        about = "promise 11";
         // The sum wraps; least and greatest are over longs.
         MorselQuery x = new MorselQuery();
         int most = Integer.MAX_VALUE;
@@ -1016,7 +915,7 @@ public final class MorselQueryPromises {
     // ---- promise 12
 
     private static void passed() {
-        promise = 12;
+        about = "promise 12";
         MorselQuery x = new MorselQuery();
         due("at first", x.passed(), 0);
         due("a refused run", x.run(9, 0, 3), REFUSED);
@@ -1052,7 +951,7 @@ public final class MorselQueryPromises {
     // ---- promise 13
 
     private static void orderAndLimits() {
-        promise = 13;
+        about = "promise 13";
         // Whatever use answers, nothing is pending: a second use is false, and twenty tokens fit again.
         for (int what = -1; what <= 3; what++) {
             for (int[] list : new int[][] {{0}, {20, 0, 1}, {10}, {0, 1}, {}}) {
