@@ -80,8 +80,8 @@ public final class MorselQueryBoundaries extends Checks {
             MorselQueryBoundaries::removeRefused);
         sentence("Else the row is taken out; the rows behind it move up by one.", MorselQueryBoundaries::removeMovesUp);
         sentence("Answers the number of rows.", MorselQueryBoundaries::removeToTheLast);
-        sentence("REFUSED if there is no such column or its table has no row with this place.", MorselQueryBoundaries::setRefused);
         sentence("Sets a cell, column 0..5 of its table.", MorselQueryBoundaries::setEachCell);
+        sentence("REFUSED if there is no such column or its table has no row with this place.", MorselQueryBoundaries::setRefused);
         sentence("0 if there is no such column or no such row.", MorselQueryBoundaries::cellOfNone);
         sentence("The number of rows of table 0 or 1; REFUSED.", MorselQueryBoundaries::rowsOfAll);
     }
@@ -97,7 +97,6 @@ public final class MorselQueryBoundaries extends Checks {
         sentence("if the tokens are not exactly one expression", MorselQueryBoundaries::useOfNoExpression);
         sentence("with operands of the right kinds", MorselQueryBoundaries::useOfWrongKinds);
         sentence("or if it is a number for 0 or a truth for 1 and 2.", MorselQueryBoundaries::useOfWrongResult);
-        sentence("use: no expression is pending afterwards, whatever it answers.", MorselQueryBoundaries::nothingPendingAfterUse);
     }
 
     private static void queries() {
@@ -113,6 +112,7 @@ public final class MorselQueryBoundaries extends Checks {
         sentence("Changes of tables and expressions leave the groups.", MorselQueryBoundaries::changesLeaveTheGroups);
         sentence("How many pairs passed in the last run() that was not REFUSED (also if it was FULL).", MorselQueryBoundaries::passedInTheLastRun);
         sentence("At first 0.", MorselQueryBoundaries::passedAtFirst);
+        sentence("use: no expression is pending afterwards, whatever it answers.", MorselQueryBoundaries::nothingPendingAfterUse);
         sentence("insert: REFUSED is tested before FULL.", MorselQueryBoundaries::insertRefusedBeforeFull);
         sentence("run: REFUSED is tested before FULL.", MorselQueryBoundaries::runRefusedBeforeFull);
     }
