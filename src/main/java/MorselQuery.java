@@ -193,7 +193,8 @@ public final class MorselQuery {
         groupCount = 0;
         passedCount = 0;
         tooManyGroups = false;
-        for (int left = 0; left < rowCounts[0]; left++) {
+        int leftRows = rowCounts[0];
+        for (int left = 0; left < leftRows; left++) {
             considerRow(mode, l, r, left);
         }
         if (tooManyGroups) {
@@ -287,7 +288,8 @@ public final class MorselQuery {
         boolean joined = false;
         if (mode == INNER_JOIN || mode == LEFT_JOIN) {
             int wanted = cells[l * MOST_ROWS + left];
-            for (int right = 0; right < rowCounts[1]; right++) {
+            int rightRows = rowCounts[1];
+            for (int right = 0; right < rightRows; right++) {
                 if (wanted != NULL && wanted == cells[r * MOST_ROWS + right]) {
                     joined = true;
                     considerPair(left, right);
@@ -433,16 +435,17 @@ public final class MorselQuery {
     }
 
     private int groupWithKey(boolean keyIsNull, long key) {
+        int groups = groupCount;
         int place = 0;
-        for (int i = 0; i < groupCount; i++) {
+        for (int i = 0; i < groups; i++) {
             if (comesBefore(i, keyIsNull, key)) {
                 place = i + 1;
             }
         }
-        if (place < groupCount && hasKey(place, keyIsNull, key)) {
+        if (place < groups && hasKey(place, keyIsNull, key)) {
             return place;
         }
-        if (groupCount >= MOST_GROUPS) {
+        if (groups >= MOST_GROUPS) {
             return NO_GROUP;
         }
         openGroup(place, keyIsNull, key);

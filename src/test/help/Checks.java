@@ -23,6 +23,14 @@ class Checks {
         due(what, got ? 1 : 0, want ? 1 : 0);
     }
 
+    static void must(String what, boolean holds) {
+        checks++;
+        if (!holds) {
+            wrong++;
+            System.out.println(about + ": " + what);
+        }
+    }
+
     static void end() {
         System.out.println(checks + " checks, " + wrong + " wrong");
         if (wrong != 0) {
